@@ -66,9 +66,6 @@ public final class PebbleBars {
         if (frame.placeOf(p, q) != NONE) {
             return STATE;
         }
-        if (frame.bars >= MAX_BARS) {
-            return FULL;
-        }
         return frame.addBar(p, q);
     }
 
@@ -409,8 +406,7 @@ public final class PebbleBars {
     // ---- a text
 
     private int doneAsText() {
-        tape.rewind();
-        int verb = tape.nextWord();
+        int verb = tape.firstWord();
         if (verb == WORD_PIN) {
             return doneAsPin();
         }
@@ -428,7 +424,7 @@ public final class PebbleBars {
         if (!tape.endsNext()) {
             return faultHere();
         }
-        return frame.pins >= MAX_PINS ? FULL : frame.addPin(name);
+        return frame.addPin(name);
     }
 
     private int doneAsBar(boolean comes) {
@@ -492,6 +488,7 @@ public final class PebbleBars {
         final int[] lesser = new int[MAX_BARS];
         final int[] greater = new int[MAX_BARS];
 
+        /** Its number, or FULL. */
         int addPin(int name) {
             if (pins >= MAX_PINS) {
                 return FULL;
@@ -523,6 +520,7 @@ public final class PebbleBars {
             return behind < 0 ? NONE : names[p] >> 8 * behind & 255;
         }
 
+        /** Its place, or FULL. */
         int addBar(int p, int q) {
             if (bars >= MAX_BARS) {
                 return FULL;
@@ -603,12 +601,12 @@ public final class PebbleBars {
 
         void empty() {
             size = 0;
-            rewind();
         }
 
-        void rewind() {
-            start = 0;
+        /** The first word; told as by nextWord(). */
+        int firstWord() {
             behind = 0;
+            return nextWord();
         }
 
         /** The next word as one number, as names are; NONE if none begins there or it has too many letters. */
@@ -638,8 +636,7 @@ public final class PebbleBars {
 
         /** All the bytes as one word; NONE if they are none. */
         int wholeWord() {
-            rewind();
-            int word = nextWord();
+            int word = firstWord();
             return start == 0 && behind == size ? word : NONE;
         }
     }

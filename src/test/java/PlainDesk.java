@@ -414,6 +414,12 @@ final class PlainDesk {
         if (!stiff() || rank(names.size(), bars) != bars.size()) {
             return STATE;
         }
+        List<int[]> steps = takenDown();
+        return i < 0 || i >= steps.size() ? -12 : steps.get(i)[what];
+    }
+
+    /** Of a stiff frame without extra bars: what each step answers. */
+    List<int[]> takenDown() {
         List<int[]> steps = new ArrayList<>();
         List<Integer> left = new ArrayList<>();
         for (int p = 0; p < names.size(); p++) {
@@ -423,7 +429,7 @@ final class PlainDesk {
         while (left.size() >= 3) {
             steps.add(takeOne(left, there));
         }
-        return i < 0 || i >= steps.size() ? -12 : steps.get(i)[what];
+        return steps;
     }
 
     private int[] takeOne(List<Integer> left, List<Bar> there) {

@@ -1,3 +1,6 @@
+import java.util.ArrayList;
+import java.util.List;
+
 /** Long runs of calls, made by a fixed rule, on the desk and on the plain one: every answer is compared. */
 public final class PlainRunsTest {
     private static final int CALLS = 512;
@@ -21,6 +24,12 @@ public final class PlainRunsTest {
         }
         for (int run = 264; run < 300; run++) {
             test.takenDown(run, 3 + run % 7);
+        }
+        for (int run = 300; run < 400; run++) {
+            test.takenDownByThrees(run, 6 + run % 4);
+        }
+        for (int run = 400; run < 406; run++) {
+            test.takenDownByThrees(run, 10 + run % 3);
         }
         test.checks.close();
     }
@@ -61,13 +70,10 @@ public final class PlainRunsTest {
         }
     }
 
-    /** A stiff frame without extra bars is grown by twos and threes in a mixed order, then taken down. */
+    /** A stiff frame without extra bars is grown of bars that carry, then taken down. */
     private void takenDown(int number, int pins) {
         start(number, pins);
-        for (int p = 0; p < pins; p++) {
-            feed("pin " + (char) ('a' + p));
-            due("text()", x.text(), y.text());
-        }
+        addPins();
         for (int i = 0; i < 400 && y.told(4) == 0; i++) {
             int p = pick(pins);
             int q = pick(pins);
@@ -75,11 +81,63 @@ public final class PlainRunsTest {
                 due("bar", x.bar(p, q), y.bar(p, q));
             }
         }
-        for (int i = -1; i < pins; i++) {
+        dueSteps();
+    }
+
+    /** The same, but each pin has three bars at least: a pin more cuts a bar in two and gets a third. */
+    private void takenDownByThrees(int number, int pins) {
+        start(number, pins);
+        addPins();
+        String first = pick(2) == 0 ? "03 04 05 13 14 15 23 24 25" : "01 02 12 34 35 45 03 14 25";
+        List<int[]> bars = new ArrayList<>();
+        for (String pair : first.split(" ")) {
+            bars.add(new int[] {pair.charAt(0) - '0', pair.charAt(1) - '0'});
+        }
+        for (int more = 6; more < pins; more++) {
+            int[] cut = bars.remove(pick(bars.size()));
+            int third = pick(more);
+            while (third == cut[0] || third == cut[1]) {
+                third = pick(more);
+            }
+            bars.add(new int[] {cut[0], more});
+            bars.add(new int[] {cut[1], more});
+            bars.add(new int[] {third, more});
+        }
+        int[] mixed = mixed(pins);
+        for (int i : mixed(bars.size())) {
+            int p = mixed[bars.get(i)[0]];
+            int q = mixed[bars.get(i)[1]];
+            due("bar", x.bar(p, q), y.bar(p, q));
+        }
+        dueSteps();
+    }
+
+    private void addPins() {
+        for (int p = 0; p < mostPins; p++) {
+            feed("pin " + (char) ('a' + p));
+            due("text()", x.text(), y.text());
+        }
+    }
+
+    private int[] mixed(int n) {
+        int[] order = new int[n];
+        for (int i = 0; i < n; i++) {
+            int other = pick(i + 1);
+            order[i] = order[other];
+            order[other] = i;
+        }
+        return order;
+    }
+
+    private void dueSteps() {
+        due("stiff", x.told(4), 1);
+        List<int[]> steps = y.takenDown();
+        for (int i = 0; i < steps.size(); i++) {
             for (int what = 0; what < 3; what++) {
-                due("down(" + i + ", " + what + ")", x.down(i, what), y.down(i, what));
+                due("down(" + i + ", " + what + ")", x.down(i, what), steps.get(i)[what]);
             }
         }
+        due("down, behind", x.down(steps.size(), 0), -12);
     }
 
     private void feed(String text) {

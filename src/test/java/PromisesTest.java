@@ -416,6 +416,12 @@ public final class PromisesTest {
         x.off(2, 6);
         due("14: the fewest", x.worst(0), 1006);
         due("14: the fewest", x.worst(1), 63);
+        x = Checks.withBars(12, "01 02 12 8a 8b ab 98 9a 9b");
+        due("14: the last of twelve", x.worst(0), 1001);
+        due("14: the last of twelve", x.worst(1), 0xf00);
+        x = Checks.withBars(12, FAN + " 1b 2b 3b");
+        due("14: all of twelve", x.worst(0), 1003);
+        due("14: all of twelve", x.worst(1), 4095);
     }
 
     private static void without() {
