@@ -498,6 +498,8 @@ public final class PromisesTest {
         // The first pair of 0's neighbours is 1, 2; a bar there would be extra in the stiff part 1, 2, 4, 5.
         dueDown("the first pair would be extra", Checks.withBars(8, "01 02 14 15 24 25 45 36 37 67 03 46 57"),
                 new int[][] {{0, 3, 103}, {2, 2, NONE}, {1, 3, 304}, {5, 2, NONE}, {4, 2, NONE}, {3, 2, NONE}});
+        dueDown("the same, the first pin in the stiff part", Checks.withBars(8, "12 13 02 24 03 34 04 56 57 67 15 06 47"),
+                new int[][] {{1, 3, 205}, {3, 2, NONE}, {0, 3, 206}, {4, 2, NONE}, {2, 2, NONE}, {5, 2, NONE}});
         PebbleBars x = Checks.withBars(12, FAN);
         int[][] fan = new int[10][];
         for (int i = 0; i < 10; i++) {
