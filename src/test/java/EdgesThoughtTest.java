@@ -342,6 +342,9 @@ public final class EdgesThoughtTest {
         Desk desk = Desk.bars(12, "b5 a4 b0 a0 a1 b1 01 45 46 56 16 24 25 34 35 74 75 84 85 94 95");
         dueDown("10 and 11", desk, new int[][] {{2, 2, NONE}, {3, 2, NONE}, {7, 2, NONE}, {8, 2, NONE}, {9, 2, NONE},
             {0, 3, 1011}, {1, 3, 610}, {11, 2, NONE}, {5, 2, NONE}, {4, 2, NONE}});
+        // Pin 0 has four bars; 1, the first of three, has 0, 3 and 4.
+        dueDown("0 and 3", Desk.bars(7, "01 02 05 31 35 41 42 45 36 26 06"),
+                new int[][] {{1, 3, 3}, {4, 2, NONE}, {2, 2, NONE}, {5, 2, NONE}, {0, 2, NONE}});
     }
 
     // ---- 19: line

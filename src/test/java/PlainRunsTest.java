@@ -3,7 +3,8 @@ import java.util.List;
 
 /** Long runs of calls, made by a fixed rule, on the desk and on the plain one: every answer is compared. */
 public final class PlainRunsTest {
-    private static final int CALLS = 512;
+    /** Of the 512 calls of an object some are left for a step that has begun, and for what is asked last. */
+    private static final int CALLS = 512 - 9 - 9;
     private static final String[] WORDS = {"pin", "bar", "off", "pins", "abcde", "", "x!", "A"};
     private static final int[] EXTREMES = {-1, -2, 12, 24, 25, 40, 41, 100, Integer.MAX_VALUE, Integer.MIN_VALUE};
 
@@ -12,6 +13,7 @@ public final class PlainRunsTest {
     private PebbleBars x;
     private PlainDesk y;
     private int run;
+    private int calls;
     private int mostPins;
 
     public static void main(String[] args) {
@@ -40,11 +42,13 @@ public final class PlainRunsTest {
     }
 
     private void due(String call, int got, int want) {
+        calls++;
         checks.due("run " + run + ": " + call, got, want);
     }
 
     private void start(int number, int pins) {
         run = number;
+        calls = 0;
         mostPins = pins;
         x = new PebbleBars();
         y = new PlainDesk();
@@ -52,7 +56,7 @@ public final class PlainRunsTest {
 
     private void oneRun(int number, int pins) {
         start(number, pins);
-        for (int call = 0; call < CALLS; call++) {
+        while (calls < CALLS) {
             // Questions cost the plain desk much with many pins: most calls change things there.
             int kind = pick(pins > 8 ? 40 : 20);
             if (kind < 4) {
