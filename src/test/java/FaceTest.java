@@ -6,7 +6,9 @@ import java.lang.reflect.Modifier;
 import java.nio.file.Files;
 import java.nio.file.Path;
 import java.util.Arrays;
+import java.util.Map;
 import java.util.Set;
+import java.util.TreeMap;
 import java.util.TreeSet;
 import java.util.regex.Matcher;
 import java.util.regex.Pattern;
@@ -19,7 +21,10 @@ public final class FaceTest {
             + "text() tied(int,int) told(int) with(int,int) without(int) worst(int)";
     private static final String[] BARRED = {"throw", "throws", "try", "catch", "synchronized", "assert", "import", "package",
         "protected", "Object", "volatile", "transient", "native", "var", "yield"};
-    private static final int MOST_LINES = 60, MOST_PARAMETERS = 7, MOST_FIELDS = 20, MOST_CLASSES = 12;
+    private static final int MOST_LINES = 60, MOST_PARAMETERS = 7, MOST_FIELDS = 20, MOST_CLASSES = 12, MOST_DEEP = 8;
+    /** What the class uses of the library; each is in rule 4. */
+    private static final Set<String> LIBRARY = Set.of("Math.min", "Math.max", "Integer.bitCount", "System.arraycopy");
+    private static final Pattern HEAD = Pattern.compile("^( {4}| {8})(public|private|static|boolean|int|void)\\b[^=;]*\\) \\{$");
 
     private final Checks checks = new Checks();
 
@@ -117,14 +122,51 @@ public final class FaceTest {
             String line = made.group().trim();
             must("made with its owner: " + line, line.contains("final") || line.equals("sheets[i] = new Sheet();"));
         }
+        Matcher used = Pattern.compile("\\b[A-Z][a-z]\\w*\\.\\w+").matcher(code);
+        while (used.find()) {
+            must("of the library: " + used.group(), LIBRARY.contains(used.group()));
+        }
         methodsAreShort(text.split("\n"));
+        callsAreNotDeep(code.split("\n"));
+    }
+
+    /** By the methods' names, which must be unlike for it: who calls whom, and how far down that goes. */
+    private void callsAreNotDeep(String[] lines) {
+        Map<String, String> bodies = new TreeMap<>();
+        for (int i = 0; i < lines.length; i++) {
+            Matcher m = HEAD.matcher(lines[i]);
+            if (m.matches()) {
+                StringBuilder body = new StringBuilder();
+                for (int at = i + 1; at < lines.length && !lines[at].equals(m.group(1) + "}"); at++) {
+                    body.append(lines[at]).append('\n');
+                }
+                String name = lines[i].replaceAll("\\(.*", "").replaceAll(".* ", "");
+                must("one method alone is named " + name, bodies.put(name, body.toString()) == null);
+            }
+        }
+        must("methods are found: " + bodies.size(), bodies.size() > 26);
+        for (String name : bodies.keySet()) {
+            int deep = depth(name, bodies, 1);
+            must(name + " goes " + deep + " calls deep", deep <= MOST_DEEP);
+        }
+    }
+
+    /** The class has no recursion, so a way down ends; one that did not is cut off where it is too deep already. */
+    private static int depth(String name, Map<String, String> bodies, int level) {
+        int deepest = level;
+        Matcher call = Pattern.compile("\\b(\\w+)\\(").matcher(bodies.get(name));
+        while (call.find() && level <= MOST_DEEP) {
+            if (bodies.containsKey(call.group(1))) {
+                deepest = Math.max(deepest, depth(call.group(1), bodies, level + 1));
+            }
+        }
+        return deepest;
     }
 
     private void methodsAreShort(String[] lines) {
-        Pattern head = Pattern.compile("^( {4}| {8})(public|private|static|boolean|int|void)\\b[^=;]*\\) \\{$");
         int methods = 0;
         for (int i = 0; i < lines.length; i++) {
-            Matcher m = head.matcher(lines[i]);
+            Matcher m = HEAD.matcher(lines[i]);
             if (m.matches()) {
                 methods++;
                 int end = i;
